@@ -1429,7 +1429,9 @@ public final class ThirdHands {
             firsts = village.firsts(u);
             Arrays.fill(counts, 0);
             Arrays.fill(least, 0);
-            Arrays.fill(keys, u * WANTS * TIMES, (u + 1) * WANTS * TIMES, NO_WAY);
+            for (int at = u * WANTS * TIMES; at < (u + 1) * WANTS * TIMES && at < keys.length; at++) {
+                keys[at] = NO_WAY;
+            }
             measureRooms();
             if (room < 0 || (firsts & ~terms.hands) != 0) {
                 return;
@@ -1702,19 +1704,23 @@ public final class ThirdHands {
             return sum;
         }
 
-        /** MIDDLE of one, all others asking by the terms; what he gets is kept. */
+        /**
+         * MIDDLE of one, all others asking by the terms; what he gets is kept. Who asks more comes
+         * never more often, so the asking ends when even the most asked could not get more.
+         */
         int middleAsk(int who) {
             ways.watched = who;
             ways.walkAll();
             ways.watched = NONE;
             int middle = 0;
             gets = 0;
-            for (int ask = 1; ask <= MOST_ASKED; ask++) {
+            int times = NONE;
+            for (int ask = 1; ask <= MOST_ASKED && (times == NONE || times * MOST_ASKED > gets); ask++) {
                 choose(ask);
                 solve();
-                int got = ask * timesMet(who);
-                if (got > gets) {
-                    gets = got;
+                times = timesMet(who);
+                if (ask * times > gets) {
+                    gets = ask * times;
                     middle = ask;
                 }
             }

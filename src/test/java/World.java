@@ -9,6 +9,8 @@ final class World {
     int[] asks = new int[8];
     int sorts;
     int[] life = new int[6];
+    /** Things last long, go quickly and are wanted late: more wants can be met. */
+    boolean kind;
     /** Each unit: sort, first, second first or -1, hour. */
     List<int[]> units = new ArrayList<>();
     /** Each want: who, sort, worth, by. */
@@ -34,7 +36,8 @@ final class World {
 
     static World draw(Random r, int mostUnits, int mostWants) {
         World v = new World();
-        v.people = 1 + r.nextInt(8);
+        v.kind = r.nextInt(3) > 0;
+        v.people = v.kind ? 3 + r.nextInt(6) : 1 + r.nextInt(8);
         v.sorts = 1 + r.nextInt(r.nextInt(3) == 0 ? 3 : 2);
         StringBuilder s = new StringBuilder();
         boolean towns = r.nextBoolean();
@@ -52,7 +55,7 @@ final class World {
             s.append(";");
             v.lines++;
         }
-        boolean lasting = r.nextBoolean();
+        boolean lasting = v.kind || r.nextBoolean();
         for (int t = 0; t < v.sorts; t++) {
             v.life[t] = lasting ? 48 : 1 + r.nextInt(20);
             s.append("sort ").append(sortName(t)).append(" ").append(v.life[t]).append(";\n");
@@ -69,8 +72,8 @@ final class World {
     }
 
     private void drawRest(Random r, StringBuilder s, int mostUnits, int mostWants) {
-        int density = 10 + r.nextInt(80);
-        boolean slow = r.nextBoolean();
+        int density = (kind ? 30 : 10) + r.nextInt(kind ? 60 : 80);
+        boolean slow = !kind && r.nextBoolean();
         boolean cheap = r.nextBoolean();
         List<String> rows = new ArrayList<>();
         for (int p = 0; p < people; p++) {
@@ -87,10 +90,10 @@ final class World {
             back = r.nextInt(4);
             rows.add(r.nextInt(Math.max(1, rows.size())), "law " + n + " " + BACKS[back] + ";");
         }
-        for (int k = r.nextInt(5); k > 0; k--) {
+        for (int k = (kind ? 2 : 0) + r.nextInt(4); k > 0; k--) {
             drawMakes(r, rows, mostUnits);
         }
-        for (int k = r.nextInt(mostWants + 1); k > 0; k--) {
+        for (int k = kind ? mostWants - r.nextInt(2) : r.nextInt(mostWants + 1); k > 0; k--) {
             drawWant(r, rows);
         }
         int size = s.length();
@@ -115,7 +118,7 @@ final class World {
         int second = r.nextInt(3) == 0 ? r.nextInt(people) : -1;
         second = second == first ? -1 : second;
         int sort = r.nextInt(sorts);
-        int hour = r.nextInt(3) == 0 ? r.nextInt(48) : r.nextInt(4);
+        int hour = r.nextInt(kind ? 8 : 3) == 0 ? r.nextInt(48) : r.nextInt(4);
         makes.add(new int[] {first, units.size()});
         for (int k = 0; k < made; k++) {
             units.add(new int[] {sort, first, second, hour});
@@ -128,7 +131,7 @@ final class World {
         int who = r.nextInt(people);
         int sort = r.nextInt(sorts);
         int worth = r.nextInt(r.nextBoolean() ? 12 : 200);
-        int by = r.nextBoolean() ? 47 : r.nextInt(48);
+        int by = r.nextInt(kind ? 5 : 2) > 0 ? 47 : r.nextInt(48);
         wants.add(new int[] {who, sort, worth, by});
         rows.add("wants " + name(who) + " " + sortName(sort) + " " + worth + (by == 47 ? "" : " by " + by) + ";");
     }
