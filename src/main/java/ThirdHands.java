@@ -591,7 +591,6 @@ public final class ThirdHands {
         static final int ANY_WORD = 10;
         static final int TOWNS_WORD = 13;
         static final int GIVE_WORD = 14;
-        static final int USE_WORD = 15;
         static final int WAIT_WORD = 16;
         private static final int WORDS = 17;
         private static final String ALL_WORDS =
@@ -1428,7 +1427,6 @@ public final class ThirdHands {
             unit = u;
             firsts = village.firsts(u);
             Arrays.fill(counts, 0);
-            Arrays.fill(least, 0);
             for (int at = u * WANTS * TIMES; at < (u + 1) * WANTS * TIMES && at < keys.length; at++) {
                 keys[at] = NO_WAY;
             }
@@ -1768,7 +1766,6 @@ public final class ThirdHands {
             for (int u = 0; u < units; u++) {
                 who[u] = village.ofUnit(u, Village.MAKER);
                 nth[u] = 1;
-                had[u] = 0;
                 due[u] = 0;
             }
         }
@@ -1872,7 +1869,6 @@ public final class ThirdHands {
 
         /** If the bytes are 2 to 8 unlike people; they are the RING then. */
         boolean take(int[] tape, int bytes) {
-            size = 0;
             if (bytes < 2 || bytes > PEOPLE || bytes > tape.length) {
                 return false;
             }
@@ -1889,8 +1885,13 @@ public final class ThirdHands {
             return true;
         }
 
+        /** Along the RING, from the last one on to the first. */
+        private int spot(int i) {
+            return size > 0 ? i % size : 0;
+        }
+
         private int at(int i) {
-            return size > 0 ? order[i % size] : 0;
+            return order[spot(i)];
         }
 
         private int painsFrom(int i) {
@@ -1940,9 +1941,9 @@ public final class ThirdHands {
 
         private void send(int u, int start) {
             for (int k = 0; k < village.n - 1; k++) {
-                gains[(start + k) % size] -= painsFrom(start + k);
+                gains[spot(start + k)] -= painsFrom(start + k);
             }
-            int user = (start + village.n - 1) % size;
+            int user = spot(start + village.n - 1);
             gains[user] += worth(order[user], village.ofUnit(u, Village.UNIT_SORT));
         }
 

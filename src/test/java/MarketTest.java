@@ -87,6 +87,8 @@ public final class MarketTest {
         }
         ThirdHands x = Check.of(FOUR);
         Check.same("ways of 2", x.ways(0, 0, 2), 1);
+        // by steps, at a, b, c: 0 1 1, 1 1 1, 1 2 2, 2 3 3, 3 5 5
+        Check.same("ways of 6", Check.of(FOUR + "law 2 any;").ways(0, 0, 6), 5);
         Check.same("ways of 1", x.ways(0, 0, 1), -1);
         Check.same("ways of 7", x.ways(0, 0, 7), -1);
         Check.same("ways of no unit", x.ways(2, 0, 3), -1);

@@ -75,7 +75,7 @@ public final class OracleTest {
                     same("hand " + u + " " + w + " " + k, v, x.hand(k), k < path.size() ? path.get(k) : -1);
                 }
                 same("latest " + u + " " + w, v, x.latest(u, w), o.latest(u, w));
-                for (int h = 2; h <= 4; h++) {
+                for (int h = 2; h <= (v.people <= 5 ? 6 : 4); h++) {
                     Oracle other = new Oracle(v);
                     other.n = h;
                     same("ways " + u + " " + w + " " + h, v, x.ways(u, w, h), other.doing(u, w).size());
@@ -106,7 +106,7 @@ public final class OracleTest {
     private static void others(World v, ThirdHands x, Random r) {
         for (int k = 0; k < 4; k++) {
             Oracle o = new Oracle(v);
-            o.n = 2 + r.nextInt(4);
+            o.n = 2 + r.nextInt(v.people <= 6 ? 5 : 4);
             o.back = r.nextInt(4);
             o.best();
             same("other 0", v, x.other(o.n, o.back, 0), o.most());

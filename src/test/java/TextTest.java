@@ -131,6 +131,8 @@ public final class TextTest {
         marked("law |any 3;", 1);
         marked("law 3 |a;", 1);
         marked("law 3 |with;", 1);
+        marked("law 3 |law;", 1);
+        marked("law 3 |give;", 1);
         marked("law 3 any |any;", 1);
     }
 
