@@ -14,6 +14,7 @@ public final class BookTest {
         ties();
         images();
         imagesOfAll();
+        imagesOfBooks();
         newVillage();
         Check.finish("books and images");
     }
@@ -188,6 +189,28 @@ public final class BookTest {
         Check.same("restore", x.restore(0), true);
         Check.same("notes", x.count(7), 1);
         Check.same("acts", x.count(6), 2);
+    }
+
+    private static void imagesOfBooks() {
+        ThirdHands x = Check.of(TOWN);
+        x.note(0, 0, 1, 5);
+        x.note(0, 2, 3, 7);
+        x.note(0, 1, 2, 6);
+        x.note(1, 3, 0, 6);
+        x.image(0);
+        Check.village(x, TOWN);
+        x.image(1);
+        for (int k = 0; k < 4; k++) {
+            x.note(2 + k, 1, 3, 9);
+        }
+        x.restore(0);
+        lies(x, 0, 0, 0, 3);
+        lies(x, 1, 0, 0, 0);
+        lies(x, 2, 0, 0, 2);
+        Check.same("the next note", x.note(2, 2, 1, 0), 4);
+        x.restore(1);
+        Check.same("no notes", x.count(7), 0);
+        lies(x, 0, 0, 0, 0);
     }
 
     private static void newVillage() {

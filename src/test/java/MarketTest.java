@@ -243,6 +243,10 @@ public final class MarketTest {
         Check.same("the ends get nothing", x.middle(0), 0);
         Check.same("gets", x.middleBy(), 0);
         Check.same("what is told stays", x.best(0), 7);
+        x = Check.of(town.replace("who b", "who b asks 4"));
+        Check.same("middle", x.middle(1), 7);
+        Check.same("as told behind it", x.other(3, 1, 1), 3);
+        Check.same("as told behind it", x.quarrel(0, 2), 1);
         // two wants of 9 and of 3: asking 1 gets 2, asking 7 gets 7
         x = Check.of(town + "makes a s 1 0;wants c s 3;");
         Check.same("middle", x.middle(1), 7);

@@ -29,6 +29,7 @@ public final class OracleTest {
             others(v, x, r);
             if (!large) {
                 asking(v, x, r);
+                others(v, x, r);
             }
             for (int k = 0; k < 4; k++) {
                 rings(v, x, r);

@@ -143,6 +143,12 @@ public final class TextTest {
         marked("who a of |1a;", 1);
         good("who a asks 007;", 1);
         marked("who a asks |0007;", 1);
+        marked(TWO + "gives a |abcdefg 1 1;", 1);
+        marked(TWO + "gives a |b1 1 1;", 1);
+        marked(TWO + "gives a b 1 |0001;", 1);
+        marked(TWO + "gives a b 1 |1b;", 1);
+        marked(TWO + "gives a b 1 |b1;", 1);
+        marked("law 3 any;|law1 3 any;", 1);
         marked("who |A;", 1);
         marked("who a|.", 1);
         marked("|.", 1);
@@ -319,6 +325,10 @@ public final class TextTest {
         Check.same("giving to himself", x.giving(0, 0, 0), -1);
         Check.same("giving to nobody", x.giving(1, 2, 0), -1);
         Check.same("giving of nobody", x.giving(-1, 0, 0), -1);
+        Check.village(x, "who a of 1 asks 50;who b of 2 asks 60;who c of 3 asks 70;");
+        Check.village(x, "who a;who b;who c;sort s 9;makes a s 1 0;wants c s 9;gives a b 0 0;gives b c 0 0;");
+        Check.same("b asks nothing now", x.way(0, 0, 0), 0);
+        Check.same("all are of one town now", x.other(3, 3, 0), 0);
         Check.village(x, "who a;who b;");
         Check.same("a new village has no old giving", x.giving(1, 0, 0), -1);
         Check.refuses("a new village has no old unit", () -> x.unit(0, 0));
