@@ -861,9 +861,9 @@ public final class ThirdHands {
         boolean lets(int rule, int firsts, int had, int who) {
             switch (rule) {
                 case FIRST:
-                    return !has(had & ~firsts, who);
+                    return (had & ~firsts & 1 << who) == 0;
                 case ONCE:
-                    return !has(had | firsts, who);
+                    return ((had | firsts) & 1 << who) == 0;
                 case TOWNS:
                     return (had & mates[who]) == 0;
                 default:
@@ -1498,7 +1498,8 @@ public final class ThirdHands {
             long key = ((long) cost[k] << COST_SHIFT) + ((long) spent[k] << PATH_BITS) + path;
             int slot = Math.min(times[k], TIMES - 1);
             for (int w = 0; w < village.wants; w++) {
-                if (spent[k] <= rooms[w] && village.ofWant(w, Village.WHO) == hand[k]) {
+                int taker = village.want[w * Village.WANT_WIDTH + Village.WHO];
+                if (spent[k] <= rooms[w] && taker == hand[k]) {
                     least[w] = counts[w] == 0 ? spent[k] : Math.min(least[w], spent[k]);
                     counts[w]++;
                     int at = (unit * WANTS + w) * TIMES + slot;
@@ -1538,7 +1539,8 @@ public final class ThirdHands {
 
         /** Finds all WAYS, and BEST. */
         void weigh() {
-            find();
+            ways.walkAll();
+            choose(0);
             solve();
         }
 
