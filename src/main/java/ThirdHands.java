@@ -129,7 +129,7 @@ public final class ThirdHands {
     /** The questions of the VILLAGE as it is told share one reckoning, till it changes. */
     private Meeting asTold() {
         if (stale) {
-            told.ways.terms.asTold();
+            told.ways.terms.reset();
             told.weigh();
             stale = false;
         }
@@ -137,7 +137,7 @@ public final class ThirdHands {
     }
 
     private Meeting supposing() {
-        trial.ways.terms.asTold();
+        trial.ways.terms.reset();
         return trial;
     }
 
@@ -457,9 +457,9 @@ public final class ThirdHands {
     }
 
     public int note(int u, int a, int b, int hour) {
-        boolean asTold = village.hasUnit(u) && village.hasPerson(a) && village.hasPerson(b) && a != b
+        boolean fits = village.hasUnit(u) && village.hasPerson(a) && village.hasPerson(b) && a != b
             && hour >= 0 && hour < HOURS;
-        return asTold ? book.add(u, a, b, hour) : NONE;
+        return fits ? book.add(u, a, b, hour) : NONE;
     }
 
     public int lies(int u, int what) {
@@ -1329,7 +1329,7 @@ public final class ThirdHands {
             this.village = village;
         }
 
-        void asTold() {
+        void reset() {
             n = village.n;
             back = village.back;
             copyAll(village.asks, asks);
