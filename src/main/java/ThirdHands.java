@@ -1346,7 +1346,7 @@ public final class ThirdHands {
      * and the least keys are kept by how often he comes between the first and the last hand.
      */
     private static final class Ways {
-        static final long NO_WAY = Long.MAX_VALUE;
+        static final long NO_WAY = 0x7fffffffffffffffL;
         /** Of four hands in the middle one can be two at most, as nobody gives to himself. */
         static final int TIMES = 3;
         private static final int PATH_BITS = 18;

@@ -10,6 +10,7 @@ final class Check {
     static final int THROWS = Integer.MIN_VALUE;
     private static int wrong;
     private static int asked;
+    private static String about = "";
 
     private Check() {
     }
@@ -19,9 +20,18 @@ final class Check {
         if (got != due) {
             wrong++;
             if (wrong <= 40) {
-                System.out.println("  " + what + ": answered " + got + ", due is " + due);
+                System.out.println("  " + about + what + ": answered " + got + ", due is " + due);
             }
         }
+    }
+
+    /** What the next answers are about: it stands ahead of each that is not as due. */
+    static void about(String what) {
+        about = what;
+    }
+
+    static int asked() {
+        return asked;
     }
 
     static void same(String what, boolean got, boolean due) {

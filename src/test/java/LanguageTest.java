@@ -2,7 +2,9 @@ import java.io.IOException;
 import java.nio.charset.StandardCharsets;
 import java.nio.file.Files;
 import java.nio.file.Path;
+import java.util.HashSet;
 import java.util.List;
+import java.util.Set;
 import java.util.regex.Matcher;
 import java.util.regex.Pattern;
 
@@ -11,7 +13,8 @@ public final class LanguageTest {
     private static final String[] FORBIDDEN = {"->", "::", "\\bcatch\\b", "\\btry\\b", "\\bfinally\\b",
         "\\bsynchronized\\b", "\\bassert\\b", "\\bstatic \\{", "\\bprotected\\b", "\\bObject\\b", "\\bMath\\.\\w+Exact\\b",
         "\\bSystem\\.(?!arraycopy)", "\\bThread\\b", "\\bRandom\\b", "\\bMap\\b", "\\bSet\\b", "\\bwhile \\(true\\)",
-        "\\bfor \\(;;\\)", "[^\\x00-\\x7f]", "\\bpackage\\b", "\\bhashCode\\b", "\\bequals\\b", "\\btoString\\b"};
+        "\\bfor \\(;;\\)", "[^\\x00-\\x7f]", "\\bpackage\\b", "\\bhashCode\\b", "\\bequals\\b", "\\btoString\\b",
+        "\\b(Integer|Long|Math)\\.[A-Z_]+\\b", "\\bfloat\\b", "\\bdouble\\b"};
 
     private LanguageTest() {
     }
@@ -26,6 +29,7 @@ public final class LanguageTest {
         sizes(source.lines().toList());
         statics(code);
         thrown(code);
+        names(code);
         Check.finish("language");
     }
 
@@ -60,6 +64,22 @@ public final class LanguageTest {
     private static void statics(String code) {
         Matcher m = Pattern.compile("static (?!final)[\\w\\[\\]<>]+ \\w+( =|;)").matcher(code);
         Check.same("a static field that is not final", m.find(), false);
+    }
+
+    /** Rules 1 and 11: no method but one of the face has its name, and none has more than seven parameters. */
+    private static void names(String code) {
+        Set<String> face = new HashSet<>();
+        Matcher m = Pattern.compile("(?m)^    public (?:int|boolean) (\\w+)\\(").matcher(code);
+        while (m.find()) {
+            Check.same("the face has " + m.group(1) + " once", face.add(m.group(1)), true);
+        }
+        Check.same("methods of the face", face.size(), 39);
+        m = Pattern.compile("(?m)^ +(public |private |static )*[\\w\\[\\]]+ (\\w+)\\(([^)]*)\\)[\\w ]*\\{$").matcher(code);
+        while (m.find()) {
+            boolean open = m.group().contains("public ");
+            Check.same("a method of a name of the face: " + m.group(2), open || !face.contains(m.group(2)), true);
+            Check.same("parameters of " + m.group(2), m.group(3).split(",").length <= 7, true);
+        }
     }
 
     private static void thrown(String code) {

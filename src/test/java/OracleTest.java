@@ -15,7 +15,7 @@ public final class OracleTest {
     }
 
     public static void main(String[] args) {
-        int rounds = args.length > 1 ? Integer.parseInt(args[1]) : 1500;
+        int rounds = args.length > 2 ? Integer.parseInt(args[2]) : 1500;
         for (round = 1; round <= rounds; round++) {
             Random r = new Random(round);
             boolean large = r.nextInt(20) == 0;

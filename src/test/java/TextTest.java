@@ -25,27 +25,6 @@ public final class TextTest {
         Check.finish("texts");
     }
 
-    private static void faulty(String text, int place, int kind) {
-        ThirdHands x = Check.of("who z;");
-        Check.same("village of " + text, Check.village(x, text), -1 - place);
-        Check.same("fault of " + text, x.fault(), kind);
-        Check.same("the village stays with " + text, x.count(0), 1);
-        Check.same("the tape is empty behind " + text, x.count(8), 0);
-    }
-
-    private static void good(String text, int lines) {
-        ThirdHands x = new ThirdHands();
-        Check.same("village of " + text, Check.village(x, text), lines);
-        Check.same("fault of " + text, x.fault(), 0);
-        Check.same("the tape is empty behind " + text, x.count(8), 0);
-    }
-
-    /** The fault is at the mark: a stroke that the text has not. */
-    private static void marked(String text, int kind) {
-        int place = text.indexOf('|');
-        faulty(text.substring(0, place) + text.substring(place + 1), place, kind);
-    }
-
     private static void newObject() {
         ThirdHands x = new ThirdHands();
         int[] due = {0, 0, 0, 0, 3, 1, 0, 0, 0};
@@ -82,145 +61,145 @@ public final class TextTest {
     }
 
     private static void lines() {
-        good("", 0);
-        good(" \n ", 0);
-        good("who a;", 1);
-        good("who a of 9 asks 99;", 1);
-        good("who a asks 0;who b of 0;", 2);
-        good("\nwho\na\nof\n3;", 1);
-        good(TWO + "makes a s 1 0;makes a with b s 9 47;", 5);
-        good(TWO + "wants a s 0;wants a s 999 by 0;wants b s 1 by 47;", 6);
-        good(TWO + "gives a b 99 9;gives b a 0 0;", 5);
-        good("law 2 any;", 1);
-        good("law 6 towns;who a;", 2);
-        good("law 3 once;", 1);
-        good("law 3 first;", 1);
-        marked("|;", 1);
-        marked("who a;|;", 1);
-        marked("|a;", 1);
-        marked("|5;", 1);
-        marked("|give 0 a;", 1);
-        marked("who a|", 1);
-        marked("who a;who|", 1);
-        marked("who a \n |", 1);
-        marked("who |;", 1);
-        marked("who |5;", 1);
-        marked("who a of|", 1);
-        marked("who a of |x;", 1);
-        marked("who a asks 5 |of 2;", 1);
-        marked("who a of 2 |of 2;", 1);
-        marked("who a |by 2;", 1);
-        marked("who a |b;", 1);
-        marked("who a |who b;", 1);
-        marked("sort a|;", 1);
-        marked("sort a |b;", 1);
-        marked("sort a 5 |5;", 1);
-        marked(TWO + "makes a |5 1 1;", 1);
-        marked(TWO + "makes a with |5;", 1);
-        marked(TWO + "makes a with b |with b s 1 1;", 1);
-        marked(TWO + "makes a s|;", 1);
-        marked(TWO + "makes a s 1|;", 1);
-        marked(TWO + "makes a s 1 1 |by;", 1);
-        marked(TWO + "wants a s|;", 1);
-        marked(TWO + "wants a s 5 by|;", 1);
-        marked(TWO + "wants a s 5 |5;", 1);
-        marked(TWO + "wants a s 5 by 5 |by 5;", 1);
-        marked(TWO + "gives a b 1|;", 1);
-        marked(TWO + "gives a b 1 1 |1;", 1);
-        marked("law 3|;", 1);
-        marked("law |any 3;", 1);
-        marked("law 3 |a;", 1);
-        marked("law 3 |with;", 1);
-        marked("law 3 |law;", 1);
-        marked("law 3 |give;", 1);
-        marked("law 3 any |any;", 1);
+        Texts.good("", 0);
+        Texts.good(" \n ", 0);
+        Texts.good("who a;", 1);
+        Texts.good("who a of 9 asks 99;", 1);
+        Texts.good("who a asks 0;who b of 0;", 2);
+        Texts.good("\nwho\na\nof\n3;", 1);
+        Texts.good(TWO + "makes a s 1 0;makes a with b s 9 47;", 5);
+        Texts.good(TWO + "wants a s 0;wants a s 999 by 0;wants b s 1 by 47;", 6);
+        Texts.good(TWO + "gives a b 99 9;gives b a 0 0;", 5);
+        Texts.good("law 2 any;", 1);
+        Texts.good("law 6 towns;who a;", 2);
+        Texts.good("law 3 once;", 1);
+        Texts.good("law 3 first;", 1);
+        Texts.marked("|;", 1);
+        Texts.marked("who a;|;", 1);
+        Texts.marked("|a;", 1);
+        Texts.marked("|5;", 1);
+        Texts.marked("|give 0 a;", 1);
+        Texts.marked("who a|", 1);
+        Texts.marked("who a;who|", 1);
+        Texts.marked("who a \n |", 1);
+        Texts.marked("who |;", 1);
+        Texts.marked("who |5;", 1);
+        Texts.marked("who a of|", 1);
+        Texts.marked("who a of |x;", 1);
+        Texts.marked("who a asks 5 |of 2;", 1);
+        Texts.marked("who a of 2 |of 2;", 1);
+        Texts.marked("who a |by 2;", 1);
+        Texts.marked("who a |b;", 1);
+        Texts.marked("who a |who b;", 1);
+        Texts.marked("sort a|;", 1);
+        Texts.marked("sort a |b;", 1);
+        Texts.marked("sort a 5 |5;", 1);
+        Texts.marked(TWO + "makes a |5 1 1;", 1);
+        Texts.marked(TWO + "makes a with |5;", 1);
+        Texts.marked(TWO + "makes a with b |with b s 1 1;", 1);
+        Texts.marked(TWO + "makes a s|;", 1);
+        Texts.marked(TWO + "makes a s 1|;", 1);
+        Texts.marked(TWO + "makes a s 1 1 |by;", 1);
+        Texts.marked(TWO + "wants a s|;", 1);
+        Texts.marked(TWO + "wants a s 5 by|;", 1);
+        Texts.marked(TWO + "wants a s 5 |5;", 1);
+        Texts.marked(TWO + "wants a s 5 by 5 |by 5;", 1);
+        Texts.marked(TWO + "gives a b 1|;", 1);
+        Texts.marked(TWO + "gives a b 1 1 |1;", 1);
+        Texts.marked("law 3|;", 1);
+        Texts.marked("law |any 3;", 1);
+        Texts.marked("law 3 |a;", 1);
+        Texts.marked("law 3 |with;", 1);
+        Texts.marked("law 3 |law;", 1);
+        Texts.marked("law 3 |give;", 1);
+        Texts.marked("law 3 any |any;", 1);
     }
 
     private static void tokens() {
-        good("who abcdef;", 1);
-        marked("who |abcdefg;", 1);
-        marked("who |a1;", 1);
-        marked("who a of |1a;", 1);
-        good("who a asks 007;", 1);
-        marked("who a asks |0007;", 1);
-        marked(TWO + "gives a |abcdefg 1 1;", 1);
-        marked(TWO + "gives a |b1 1 1;", 1);
-        marked(TWO + "gives a b 1 |0001;", 1);
-        marked(TWO + "gives a b 1 |1b;", 1);
-        marked(TWO + "gives a b 1 |b1;", 1);
-        marked("law 3 any;|law1 3 any;", 1);
-        marked("who |A;", 1);
-        marked("who a|.", 1);
-        marked("|.", 1);
-        marked("who a|,", 1);
-        marked("who|\ta;", 1);
-        marked("who|\ra;", 1);
-        marked("who a|\u0000;", 1);
-        marked("who a|\u00e9;", 1);
-        marked("|\u00ff", 1);
-        marked("who a|`;", 1);
-        marked("who a|{;", 1);
-        marked("who a of |/;", 1);
-        marked("who a of |:;", 1);
-        marked("|whoa;", 1);
-        good("who a of 1 asks 5;who b;", 2);
-        marked("who a of |1asks 5;", 1);
-        good("who a;sort s 5;makes a s 1 1;wants a s 5 by 5;", 4);
-        marked("who a;sort s 5;makes a s |1x 1;", 1);
+        Texts.good("who abcdef;", 1);
+        Texts.marked("who |abcdefg;", 1);
+        Texts.marked("who |a1;", 1);
+        Texts.marked("who a of |1a;", 1);
+        Texts.good("who a asks 007;", 1);
+        Texts.marked("who a asks |0007;", 1);
+        Texts.marked(TWO + "gives a |abcdefg 1 1;", 1);
+        Texts.marked(TWO + "gives a |b1 1 1;", 1);
+        Texts.marked(TWO + "gives a b 1 |0001;", 1);
+        Texts.marked(TWO + "gives a b 1 |1b;", 1);
+        Texts.marked(TWO + "gives a b 1 |b1;", 1);
+        Texts.marked("law 3 any;|law1 3 any;", 1);
+        Texts.marked("who |A;", 1);
+        Texts.marked("who a|.", 1);
+        Texts.marked("|.", 1);
+        Texts.marked("who a|,", 1);
+        Texts.marked("who|\ta;", 1);
+        Texts.marked("who|\ra;", 1);
+        Texts.marked("who a|\u0000;", 1);
+        Texts.marked("who a|\u00e9;", 1);
+        Texts.marked("|\u00ff", 1);
+        Texts.marked("who a|`;", 1);
+        Texts.marked("who a|{;", 1);
+        Texts.marked("who a of |/;", 1);
+        Texts.marked("who a of |:;", 1);
+        Texts.marked("|whoa;", 1);
+        Texts.good("who a of 1 asks 5;who b;", 2);
+        Texts.marked("who a of |1asks 5;", 1);
+        Texts.good("who a;sort s 5;makes a s 1 1;wants a s 5 by 5;", 4);
+        Texts.marked("who a;sort s 5;makes a s |1x 1;", 1);
     }
 
     private static void names() {
         String[] words = {"who", "of", "asks", "sort", "makes", "with", "wants", "by", "gives", "law", "any", "first",
             "once", "towns", "give", "use", "wait"};
         for (String word : words) {
-            marked("who |" + word + ";", 1);
-            marked("sort |" + word + " 5;", 1);
-            marked(TWO + "makes |" + word + " s 1 1;", 1);
-            marked(TWO + "wants a |" + word + " 1;", 1);
-            marked(TWO + "gives a |" + word + " 1 1;", 1);
+            Texts.marked("who |" + word + ";", 1);
+            Texts.marked("sort |" + word + " 5;", 1);
+            Texts.marked(TWO + "makes |" + word + " s 1 1;", 1);
+            Texts.marked(TWO + "wants a |" + word + " 1;", 1);
+            Texts.marked(TWO + "gives a |" + word + " 1 1;", 1);
         }
-        good("who back;who town;who asksa;who wh;", 4);
-        marked("who a;who |a;", 3);
-        marked("who a;sort |a 5;", 3);
-        marked("sort a 5;who |a;", 3);
-        marked("sort a 5;sort |a 5;", 3);
-        marked("makes |a s 1 1;who a;sort s 5;", 3);
-        marked("who a;makes a |s 1 1;sort s 5;", 3);
-        marked(TWO + "makes |s s 1 1;", 3);
-        marked(TWO + "makes a |b 1 1;", 3);
-        marked(TWO + "makes a |c 1 1;", 3);
-        marked(TWO + "makes a with |a s 1 1;", 3);
-        marked(TWO + "makes a with |s s 1 1;", 3);
-        marked(TWO + "makes a with |c s 1 1;", 3);
-        marked(TWO + "wants |s s 1;", 3);
-        marked(TWO + "wants a |a 1;", 3);
-        marked(TWO + "gives a |a 1 1;", 3);
-        marked(TWO + "gives |c a 1 1;", 3);
-        marked(TWO + "gives a |c 1 1;", 3);
-        marked(TWO + "gives a b 1 1;gives a |b 2 2;", 3);
-        marked("law 3 any;|law 3 any;", 3);
-        marked("law 3 any;|law;", 3);
+        Texts.good("who back;who town;who asksa;who wh;", 4);
+        Texts.marked("who a;who |a;", 3);
+        Texts.marked("who a;sort |a 5;", 3);
+        Texts.marked("sort a 5;who |a;", 3);
+        Texts.marked("sort a 5;sort |a 5;", 3);
+        Texts.marked("makes |a s 1 1;who a;sort s 5;", 3);
+        Texts.marked("who a;makes a |s 1 1;sort s 5;", 3);
+        Texts.marked(TWO + "makes |s s 1 1;", 3);
+        Texts.marked(TWO + "makes a |b 1 1;", 3);
+        Texts.marked(TWO + "makes a |c 1 1;", 3);
+        Texts.marked(TWO + "makes a with |a s 1 1;", 3);
+        Texts.marked(TWO + "makes a with |s s 1 1;", 3);
+        Texts.marked(TWO + "makes a with |c s 1 1;", 3);
+        Texts.marked(TWO + "wants |s s 1;", 3);
+        Texts.marked(TWO + "wants a |a 1;", 3);
+        Texts.marked(TWO + "gives a |a 1 1;", 3);
+        Texts.marked(TWO + "gives |c a 1 1;", 3);
+        Texts.marked(TWO + "gives a |c 1 1;", 3);
+        Texts.marked(TWO + "gives a b 1 1;gives a |b 2 2;", 3);
+        Texts.marked("law 3 any;|law 3 any;", 3);
+        Texts.marked("law 3 any;|law;", 3);
     }
 
     private static void numbers() {
-        marked("who a of |10;", 2);
-        marked("who a asks |100;", 2);
-        marked("sort a |0;", 2);
-        marked("sort a |49;", 2);
-        good("sort a 48;sort b 1;", 2);
-        marked(TWO + "makes a s |0 1;", 2);
-        marked(TWO + "makes a s |10 1;", 2);
-        marked(TWO + "makes a s 1 |48;", 2);
-        marked(TWO + "wants a s |1000;", 1);
-        marked(TWO + "wants a s 1 by |48;", 2);
-        marked(TWO + "gives a b |100 1;", 2);
-        marked(TWO + "gives a b 1 |10;", 2);
-        marked("law |1 any;", 2);
-        marked("law |7 any;", 2);
-        marked("law |0 a;", 2);
+        Texts.marked("who a of |10;", 2);
+        Texts.marked("who a asks |100;", 2);
+        Texts.marked("sort a |0;", 2);
+        Texts.marked("sort a |49;", 2);
+        Texts.good("sort a 48;sort b 1;", 2);
+        Texts.marked(TWO + "makes a s |0 1;", 2);
+        Texts.marked(TWO + "makes a s |10 1;", 2);
+        Texts.marked(TWO + "makes a s 1 |48;", 2);
+        Texts.marked(TWO + "wants a s |1000;", 1);
+        Texts.marked(TWO + "wants a s 1 by |48;", 2);
+        Texts.marked(TWO + "gives a b |100 1;", 2);
+        Texts.marked(TWO + "gives a b 1 |10;", 2);
+        Texts.marked("law |1 any;", 2);
+        Texts.marked("law |7 any;", 2);
+        Texts.marked("law |0 a;", 2);
         // the first along the text, though a lesser kind comes behind it
-        marked("who a;who |a;?", 3);
-        marked("law |1 ?;", 2);
+        Texts.marked("who a;who |a;?", 3);
+        Texts.marked("law |1 ?;", 2);
     }
 
     private static void limits() {
@@ -234,42 +213,38 @@ public final class TextTest {
         for (int k = 0; k < 6; k++) {
             sorts.append("sort s").append((char) ('a' + k)).append(" 5;");
         }
-        good(people.toString() + sorts, 14);
-        marked(people + "|who x;", 4);
-        marked(people + "|who pa;", 4);
-        marked(people + "|who", 4);
-        marked(sorts + "|sort x 5;", 4);
-        good(wants.toString(), 11);
-        marked(wants + "|wants b s 5;", 4);
-        good(TWO + "makes a s 9 0;makes b s 7 0;", 5);
-        marked(TWO + "makes a s 9 0;makes b s |8 0;", 4);
-        marked(TWO + "makes a s 9 0;makes b s 7 0;makes a s |1 0;", 4);
-        marked(TWO + "makes a s 9 0;makes b s 7 0;makes a s |10 0;", 2);
-        marked(TWO + "makes a s 9 0;makes b s |8 99;", 4);
-    }
-
-    private static String blanks(int n) {
-        return " ".repeat(n);
+        Texts.good(people.toString() + sorts, 14);
+        Texts.marked(people + "|who x;", 4);
+        Texts.marked(people + "|who pa;", 4);
+        Texts.marked(people + "|who", 4);
+        Texts.marked(sorts + "|sort x 5;", 4);
+        Texts.good(wants.toString(), 11);
+        Texts.marked(wants + "|wants b s 5;", 4);
+        Texts.good(TWO + "makes a s 9 0;makes b s 7 0;", 5);
+        Texts.marked(TWO + "makes a s 9 0;makes b s |8 0;", 4);
+        Texts.marked(TWO + "makes a s 9 0;makes b s 7 0;makes a s |1 0;", 4);
+        Texts.marked(TWO + "makes a s 9 0;makes b s 7 0;makes a s |10 0;", 2);
+        Texts.marked(TWO + "makes a s 9 0;makes b s |8 99;", 4);
     }
 
     private static void longTexts() {
-        good("who a;" + blanks(994), 1);
-        faulty("who a;" + blanks(995), 1000, 1);
-        faulty("who a;" + blanks(1034), 1000, 1);
-        good(blanks(994) + "who a;", 1);
-        faulty(blanks(995) + "who a;", 1000, 1);
-        faulty(blanks(998) + "who a;", 1000, 1);
-        faulty(blanks(1001) + "?", 1000, 1);
-        faulty(blanks(999) + "?" + blanks(9), 999, 1);
-        faulty("who " + blanks(994) + "abcdef;", 1000, 1);
-        faulty("who " + blanks(994) + "abcdefg;", 998, 1);
-        faulty("who " + blanks(995) + "asksab;", 1000, 1);
-        faulty("who " + blanks(995) + "asks;", 999, 1);
-        faulty("law " + blanks(995) + "33 any;", 999, 2);
-        faulty("law " + blanks(995) + "3 any;", 1000, 1);
-        faulty("who a;who b" + blanks(989), 1000, 1);
-        faulty("who a;who b" + blanks(988), 999, 1);
-        faulty("who b;who b" + blanks(1020), 10, 3);
+        Texts.good("who a;" + Texts.blanks(994), 1);
+        Texts.faulty("who a;" + Texts.blanks(995), 1000, 1);
+        Texts.faulty("who a;" + Texts.blanks(1034), 1000, 1);
+        Texts.good(Texts.blanks(994) + "who a;", 1);
+        Texts.faulty(Texts.blanks(995) + "who a;", 1000, 1);
+        Texts.faulty(Texts.blanks(998) + "who a;", 1000, 1);
+        Texts.faulty(Texts.blanks(1001) + "?", 1000, 1);
+        Texts.faulty(Texts.blanks(999) + "?" + Texts.blanks(9), 999, 1);
+        Texts.faulty("who " + Texts.blanks(994) + "abcdef;", 1000, 1);
+        Texts.faulty("who " + Texts.blanks(994) + "abcdefg;", 998, 1);
+        Texts.faulty("who " + Texts.blanks(995) + "asksab;", 1000, 1);
+        Texts.faulty("who " + Texts.blanks(995) + "asks;", 999, 1);
+        Texts.faulty("law " + Texts.blanks(995) + "33 any;", 999, 2);
+        Texts.faulty("law " + Texts.blanks(995) + "3 any;", 1000, 1);
+        Texts.faulty("who a;who b" + Texts.blanks(989), 1000, 1);
+        Texts.faulty("who a;who b" + Texts.blanks(988), 999, 1);
+        Texts.faulty("who b;who b" + Texts.blanks(1020), 10, 3);
     }
 
     private static void faultKept() {
@@ -334,16 +309,6 @@ public final class TextTest {
         Check.refuses("a new village has no old unit", () -> x.unit(0, 0));
     }
 
-    private static void wrongPlan(ThirdHands x, String text, int kind) {
-        int place = text.indexOf('|');
-        String plain = text.substring(0, place) + text.substring(place + 1);
-        int acts = x.count(6);
-        Check.same("plan of " + plain, Check.plan(x, plain), -1 - place);
-        Check.same("fault of " + plain, x.fault(), kind);
-        Check.same("the plan stays with " + plain, x.count(6), acts);
-        Check.same("the tape is empty behind " + plain, x.count(8), 0);
-    }
-
     private static void plans() {
         ThirdHands x = Check.of("who a;who b;sort s 5;makes a s 3 0;");
         Check.same("plan", Check.plan(x, "give 2 b;use 0;wait 47;\ngive\n001 a;"), 4);
@@ -365,18 +330,18 @@ public final class TextTest {
             "give 0 |use;", "give 0 |who;", "give 0 |with;", "give 0 b |b;", "use|;", "use 0 |b;", "wait|;", "wait |a;",
             "wait 1 |1;", "wait 1|", "use 0|.", "|?", "give 0 |abcdefg;"};
         for (String one : ones) {
-            wrongPlan(x, one, 1);
+            Texts.markedPlan(x, one, 1);
         }
         String[] twos = {"give |3 b;", "use |3;", "use |999;", "wait |0;", "wait |48;", "give |3 ?;"};
         for (String two : twos) {
-            wrongPlan(x, two, 2);
+            Texts.markedPlan(x, two, 2);
         }
-        wrongPlan(x, "give 0 |c;", 3);
-        wrongPlan(x, "give 0 |s;", 3);
+        Texts.markedPlan(x, "give 0 |c;", 3);
+        Texts.markedPlan(x, "give 0 |s;", 3);
         Check.same("an empty plan", Check.plan(x, ""), 0);
         Check.refuses("act", () -> x.act(0, 0));
         ThirdHands none = new ThirdHands();
-        wrongPlan(none, "use |0;", 2);
+        Texts.markedPlan(none, "use |0;", 2);
         Check.same("a plan of waits alone", Check.plan(none, "wait 3;"), 1);
     }
 
@@ -384,25 +349,24 @@ public final class TextTest {
         ThirdHands x = Check.of("who a;who b;sort s 5;makes a s 3 0;");
         String fifty = "wait 1;".repeat(50);
         Check.same("50 acts", Check.plan(x, fifty), 50);
-        wrongPlan(x, fifty + "|wait 1;", 4);
-        wrongPlan(x, fifty + "|use", 4);
-        wrongPlan(x, fifty + "|who;", 1);
-        wrongPlan(x, fifty + "|;", 1);
-        Check.same("500 bytes", Check.plan(x, fifty + blanks(150)), 50);
-        wrongPlan(x, fifty + blanks(150) + "| ", 1);
-        wrongPlan(x, fifty + blanks(150) + "|use 0;", 1);
-        wrongPlan(x, fifty + blanks(149) + "|use 0;", 4);
-        wrongPlan(x, "use 0" + blanks(495) + "|;", 1);
-        Check.same("a token at the very end", Check.plan(x, "use 0" + blanks(494) + ";"), 1);
-        wrongPlan(x, "use" + blanks(496) + "|0000;", 1);
-        wrongPlan(x, "use" + blanks(496) + "0|02;", 1, 500);
+        Texts.markedPlan(x, fifty + "|wait 1;", 4);
+        Texts.markedPlan(x, fifty + "|use", 4);
+        Texts.markedPlan(x, fifty + "|who;", 1);
+        Texts.markedPlan(x, fifty + "|;", 1);
+        Check.same("500 bytes", Check.plan(x, fifty + Texts.blanks(150)), 50);
+        Texts.markedPlan(x, fifty + Texts.blanks(150) + "| ", 1);
+        Texts.markedPlan(x, fifty + Texts.blanks(150) + "|use 0;", 1);
+        Texts.markedPlan(x, fifty + Texts.blanks(149) + "|use 0;", 4);
+        Texts.markedPlan(x, "use 0" + Texts.blanks(495) + "|;", 1);
+        Check.same("a token at the very end", Check.plan(x, "use 0" + Texts.blanks(494) + ";"), 1);
+        Texts.markedPlan(x, "use" + Texts.blanks(496) + "|0000;", 1);
+        longToken(x, "use" + Texts.blanks(496) + "002;");
     }
 
-    /** The fault is behind the bytes that a token read whole has. */
-    private static void wrongPlan(ThirdHands x, String text, int kind, int place) {
-        String plain = text.replace("|", "");
-        Check.same("plan of " + plain, Check.plan(x, plain), -1 - place);
-        Check.same("fault of " + plain, x.fault(), kind);
+    /** The last token is read whole, and good, though it ends behind the 500 bytes: then there are more. */
+    private static void longToken(ThirdHands x, String text) {
+        Check.same("plan of " + text, Check.plan(x, text), -1 - 500);
+        Check.same("fault of " + text, x.fault(), 1);
     }
 
     private static void drawn() {
