@@ -183,6 +183,21 @@ public final class LatePromiseEdgeTest {
         + "gives b a 4 0;wants c s 9;";
 
     private static void ring() {
+        Edge.test("Promise 27", "RING of the tape's PEOPLE (each byte is the number of one: 2 to 8, unlike)", () -> {
+            ThirdHands x = Check.of(ROUND);
+            x.feed(0x00010200, 0, 0, 0, 0);
+            x.end(3);
+            Check.same("bytes, not digits", x.ring(), 3);
+            Check.same("digits", Check.ring(x, '0', '1', '2'), -2);
+            Check.same("letters", Check.ring(x, 'a', 'b', 'c'), -2);
+            x.feed(0x00010200, 0, 0, 0, 0);
+            x.end(2);
+            Check.same("two of them", x.ring(), 3);
+            x.feed(0x00010200, 0, 0, 0, 0);
+            x.end(1);
+            Check.same("one of them", x.ring(), -2);
+            Check.same("none", x.ring(), -2);
+        });
         Edge.test("Promise 27", "NONE: one does not give to the next; -2: not as told", () -> {
             ThirdHands x = Check.of(ROUND);
             Check.same("a ring", Check.ring(x, 0, 1, 2), 3);

@@ -550,6 +550,35 @@ public final class PromiseEdgeTest {
                 Check.same("judged " + k, x.judged(k), due[k]);
             }
         });
+        Edge.test("Promise 19", "1 the HOUR, 2 WANTS met, as bits, 3 PAINS in all, 4 UNITS that are SPOILT unused, as bits", () -> {
+            String all = "who a;who b;sort s 1;makes a s 9 0;makes a s 7 0;gives a b 99 0;law 2 any;" + "wants b s 1;".repeat(8);
+            ThirdHands x = Check.of(all);
+            StringBuilder go = new StringBuilder();
+            for (int u = 8; u < 16; u++) {
+                go.append("give ").append(u).append(" b;use ").append(u).append(";");
+            }
+            Check.plan(x, go.toString());
+            x.judge();
+            int[] due = {0, 0, 255, 792, 0};
+            for (int k = 0; k < 5; k++) {
+                Check.same("judged " + k, x.judged(k), due[k]);
+            }
+            Check.plan(x, go + "wait 1;");
+            x.judge();
+            Check.same("the other eight are SPOILT", x.judged(4), 255);
+            Check.plan(x, "wait 47;");
+            x.judge();
+            Check.same("HOUR", x.judged(1), 47);
+            Check.same("all sixteen are SPOILT", x.judged(4), 65535);
+            // the hour of a giving is none that goes by, and what is not made yet is not SPOILT
+            x = Check.of("who a;who b;sort s 1;makes a s 1 0;makes a s 1 9;gives a b 3 9;");
+            Check.plan(x, "give 0 b;wait 5;");
+            x.judge();
+            int[] less = {0, 5, 0, 3, 1};
+            for (int k = 0; k < 5; k++) {
+                Check.same("judged " + k, x.judged(k), less[k]);
+            }
+        });
         Edge.test("Promise 19", "0 why it was WRONG (1 to 8; 0: it was not)", () -> {
             ThirdHands x = Check.of(TOWN);
             Check.plan(x, "use 0;");
@@ -592,7 +621,7 @@ public final class PromiseEdgeTest {
             Check.same("the second", x.holds(1, 1), 2);
             Check.same("the first", x.holds(2, 1), 1);
         });
-        Edge.test("Promise 20", "1, if that one may use it then (2), 0 if not", () -> {
+        Edge.test("Promise 20", "it is there, not SPOILT, he is the N-th, has a WANT of it as for 'use'", () -> {
             String go = "wait 1;give 0 b;wait 2;";
             Check.same("the N-th", may(TOWN, go + "give 0 c;"), 1);
             Check.same("the second", may(TOWN, go), 0);

@@ -323,6 +323,8 @@ public final class WayEdgeTest {
             middles(MIDDLE + "wants c s 22;", 1, 20, 20);
             middles(MIDDLE + "wants c s 23;", 1, 20, 20);
             middles(MIDDLE + "wants c s 999;", 1, 20, 20);
+            middles(MIDDLE + "makes a s 1 0;wants c s 99;wants c s 99;", 1, 20, 40);
+            middles(MIDDLE + "makes a s 7 0;" + "wants c s 99;".repeat(8), 1, 20, 160);
             middles(MIDDLE + "wants c s 3;", 1, 1, 1);
             middles(MIDDLE + "wants c s 2;", 1, 0, 0);
             middles(MIDDLE + "wants c s 1;", 1, 0, 0);
